@@ -1019,12 +1019,10 @@ public final class WordWheel {
             return next;
         }
 
+        /** For a round that begins with N LETTERS 0, so that word 0 stands at place 0. */
         private void findPlaces() {
             int word = 0;
-            for (int i = 0; i < words.length; i++) {
-                word = word * words.letters + letters[i];
-            }
-            int coming = words.length % words.all;
+            int coming = words.length;
             for (int i = 0; i < words.all; i++) {
                 places[word] = i;
                 word = word % words.high * words.letters + letters[coming];

@@ -16,6 +16,7 @@ public final class CompareTest {
     private final WordWheel wheel = new WordWheel();
     private final NaiveWheel naive = new NaiveWheel();
     private final StringBuilder told = new StringBuilder();
+    private int calls = 0;
 
     private CompareTest(long seed) {
         random = new Random(seed);
@@ -23,7 +24,7 @@ public final class CompareTest {
 
     public static void main(String[] args) {
         for (int seed = 0; seed < 1500 && Due.wrongs() < 20; seed++) {
-            new CompareTest(seed).mixedRun(SHAPES, 512);
+            new CompareTest(seed).mixedRun(SHAPES, 440);
         }
         for (int seed = 5000; seed < 5030 && Due.wrongs() < 20; seed++) {
             new CompareTest(seed).mixedRun(LARGE, 60);
@@ -34,9 +35,10 @@ public final class CompareTest {
         Due.end();
     }
 
-    private void mixedRun(int[][] shapes, int calls) {
+    /** One turn may take some sixty calls, and an object has 512. */
+    private void mixedRun(int[][] shapes, int most) {
         int wrong = Due.wrongs();
-        for (int i = 0; i < calls && Due.wrongs() == wrong; i++) {
+        for (int i = 0; calls < most && Due.wrongs() == wrong; i++) {
             int[] shape = shapes[random.nextInt(shapes.length)];
             if (i == 0 || random.nextInt(60) == 0) {
                 same("wheel", wheel.wheel(shape[0], shape[1]), naive.wheel(shape[0], shape[1]), shape[0], shape[1]);
@@ -73,6 +75,7 @@ public final class CompareTest {
             call.append(i == 0 ? "" : ", ").append(with[i]);
         }
         call.append(')');
+        calls++;
         told.append(call).append(" -> ").append(got).append('\n');
         Due.due(name, got, want);
         if (got != want) {

@@ -18,6 +18,8 @@ public final class RegisterTest {
         join();
         joinRefuses();
         joinUpToTheMost();
+        joinToJustTheMost();
+        joinManyAtOnce();
         Due.end();
     }
 
@@ -299,15 +301,41 @@ public final class RegisterTest {
         due("17: the last one", x.exchange(1, 2049), 2);
         x.back();
         due("22: cycles", x.cycles(), 1);
+    }
 
-        x.wheel(2, 12);
-        for (int i = 0; i < 49; i++) {
-            x.exchange(1, 2049);
+    /** A pair of EXCHANGES that take one another back leaves the 11 cycles as they are. */
+    private static void joinToJustTheMost() {
+        WordWheel x = new WordWheel();
+        x.wheel(3, 3);
+        for (int i = 0; i < 392; i++) {
+            x.exchange(1, 10);
         }
-        x.exchange(1, 2049);
+        due("22: 392 and 10 are too many", x.join(), FULL);
         x.back();
-        x.exchange(2, 2050);
-        due("22: exactly the most", x.count(3) + x.cycles() - 1, 400 - 1);
-        due("22: made", x.join(), 349);
+        due("22: 391 and 9 are not", x.join(), 9);
+        due("22: the most", x.count(3), 400);
+        due("22: none to make", x.join(), 0);
+        for (int i = 0; i < 10; i++) {
+            x.back();
+        }
+        due("22: 390 and 10 are not", x.join(), 10);
+        due("22: the most", x.count(3), 400);
+        due("22: one cycle", x.cycles(), 1);
+    }
+
+    private static void joinManyAtOnce() {
+        WordWheel x = new WordWheel();
+        x.wheel(4, 6);
+        x.factor(0, 3);
+        x.factor(3, 2);
+        due("19: cycles", x.cycles(), 400);
+        due("21: the last", x.cycle(399, 1) > 0 ? 1 : 0, 1);
+        due("17: one more, and an exchange", x.exchange(x.cycle(1, 0), x.cycle(1, 0) + 1024), 399);
+        due("22: the others", x.join(), 398);
+        due("22: one cycle", x.cycles(), 1);
+        x.sum(0);
+        due("22: all of them", x.join(), 399);
+        due("22: one cycle", x.cycles(), 1);
+        due("23: a round of it", x.round(2), 4096);
     }
 }

@@ -167,19 +167,34 @@ public final class RoundsTest {
         int[][] shapes = {{2, 14}, {3, 9}, {4, 7}, {5, 6}, {2, 1}, {3, 1}, {4, 2}};
         for (int[] shape : shapes) {
             for (int kind = 0; kind < 2; kind++) {
-                WordWheel x = new WordWheel();
-                int all = x.wheel(shape[0], shape[1]);
-                due("23: ALL", x.round(kind), all);
-                boolean[] come = new boolean[all];
-                for (int p = 0; p < all; p++) {
-                    int word = 0;
-                    for (int j = 0; j < shape[1]; j++) {
-                        word = word * shape[0] + x.letter((p + j) % all);
-                    }
-                    Due.due("25: stands at " + p, !come[word] && x.place(word) == p);
-                    come[word] = true;
-                }
+                everyWordStandsOnce(shape[0], shape[1], kind);
             }
+        }
+    }
+
+    private static void everyWordStandsOnce(int k, int n, int kind) {
+        int all = (int) Math.round(Math.pow(k, n));
+        int[] letters = new int[all];
+        int[] places = new int[all];
+        WordWheel x = null;
+        for (int i = 0; i < all; i++) {
+            if (i % 250 == 0) {
+                // an object has 512 calls
+                x = new WordWheel();
+                x.wheel(k, n);
+                due("23: ALL", x.round(kind), all);
+            }
+            letters[i] = x.letter(i);
+            places[i] = x.place(i);
+        }
+        boolean[] come = new boolean[all];
+        for (int p = 0; p < all; p++) {
+            int word = 0;
+            for (int j = 0; j < n; j++) {
+                word = word * k + letters[(p + j) % all];
+            }
+            Due.due("25: stands at " + p, !come[word] && places[word] == p);
+            come[word] = true;
         }
     }
 }

@@ -23,6 +23,7 @@ public final class TapesTest {
         partStays();
         recurrence();
         leastNumbers();
+        longestRecurrence();
         recurrenceRefuses();
         coefficientStays();
         count();
@@ -474,6 +475,24 @@ public final class TapesTest {
         x.wheel(5, 1);
         dueRecurrence(x, "0024", 2, 0, 0);
         dueRecurrence(x, "123", 0, 3);
+    }
+
+    private static void longestRecurrence() {
+        WordWheel x = new WordWheel();
+        x.wheel(3, 1);
+        x.tape(0, 0, 200);
+        due("38: all are 0", x.recurrence(0), 0);
+        x.put(0, 0, 199, 2);
+        due("38: as long as the tape", x.recurrence(0), 200);
+        for (int j = 1; j <= 200; j++) {
+            due("39: coefficient " + j, x.coefficient(j), 0);
+        }
+        due("39: none behind", x.coefficient(201), BAD);
+        x.put(0, 0, 198, 1);
+        due("38: one less", x.recurrence(0), 199);
+        due("39: first", x.coefficient(1), 2);
+        due("39: last", x.coefficient(199), 0);
+        due("39: none behind", x.coefficient(200), BAD);
     }
 
     private static void recurrenceRefuses() {
