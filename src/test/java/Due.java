@@ -26,6 +26,10 @@ final class Due {
         return wrong;
     }
 
+    static int checks() {
+        return checks;
+    }
+
     static void end() {
         System.out.println(checks + " checks, " + wrong + " wrong");
         System.exit(wrong == 0 && checks > 0 ? 0 : 1);
