@@ -389,6 +389,19 @@ final class EdgesOfRegister {
         due("1 and 5 were of two", x.go(1), 2);
         due("1 and 5 were of two", x.go(5), 3);
         due("2 and 6 are of one by then", x.go(2), 5);
+        // 0 and 11 others, 1 and 11 others, 5 15 19: first 3 and 12 are of two, and 3 is not of the first
+        x.wheel(3, 3);
+        x.factor(1, 2);
+        x.factor(2, 1);
+        x.sum(2);
+        due("three CYCLES", x.cycles(), 3);
+        due("two EXCHANGES", x.join(), 2);
+        due("3 leads as 12 did", x.go(3), 11);
+        due("12 leads as 3 did", x.go(12), 10);
+        due("4 and 13 are of one by then", x.go(4), 14);
+        due("5 leads as 14 did", x.go(5), 16);
+        due("14 leads as 5 did", x.go(14), 15);
+        due("one CYCLE", x.cycles(), 1);
     }
 
     private static void joinTellsHowMany() {

@@ -486,6 +486,15 @@ final class EdgesOfTapes {
         x.put(0, 0, 0, -1);
         x.put(0, 0, 2, 127);
         due("only BLANKS", x.find(0, 0, 3, 0), 8);
+        for (int k = 2; k <= 5; k++) {
+            x = States.written(k, 1, "" + (k - 1));
+            x.round(0);
+            due("K " + k + ": the last LETTER", x.find(0, 0, 1, 0), 1);
+            due("K " + k + ": there", x.found(), k - 1);
+            due("K " + k + ": with a slip", x.find(0, 0, 1, 1), k);
+            x.put(0, 0, 0, k);
+            due("K " + k + ": one more, a BLANK", x.find(0, 0, 1, 0), k);
+        }
         x.wheel(2, 1);
         x.round(0);
         x.tape(1, 0, 40);
